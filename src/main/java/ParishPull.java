@@ -750,14 +750,11 @@ public final class ParishPull {
             return best;
         }
 
-        /** All that hang count, as the document says of people alone that they are there. */
         int wouldFall(int parish, int pull) {
             int set = 0;
             for (int good = 0; good < goods; good++) {
-                int weight = places[good] == parish
-                        ? Ground.weight(ground.kinds[parish], pull, masses[good])
-                        : weightOfGood(good);
-                if (ropes[good] > 0 && weight > ropes[good]) {
+                if (places[good] == parish && ropes[good] > 0
+                        && Ground.weight(ground.kinds[parish], pull, masses[good]) > ropes[good]) {
                     set |= 1 << good;
                 }
             }

@@ -1001,7 +1001,7 @@ public final class OracleTest {
                 pulls.get(p)[s] = (int) v;
                 int after = weight(where, thing[0]);
                 pulls.get(p)[s] = old;
-                boolean counts = what == 0 ? thing[3] > 0 && after > thing[3] : after < before;
+                boolean counts = what == 0 ? where == p && thing[3] > 0 && after > thing[3] : after < before;
                 set |= counts ? 1 << k : 0;
             }
             return set;

@@ -202,6 +202,7 @@ public final class PromiseTest {
         ParishPull x = landOf("l,s");
         x.good(10, 1, 0);
         x.good(10, 1, 1);
+        due("8: rope 1 of weight 50", x.hang(0, 1), -2);
         due("8: rope 49 of weight 50", x.hang(0, 49), -2);
         due("8: it still lies", x.told(0, 8), 0);
         due("8: rope 50 of weight 50", x.hang(0, 50), 0);
@@ -286,6 +287,9 @@ public final class PromiseTest {
         due("13: BAD ahead of FULL", x.type(127), -1);
         due("14: its fault", x.land(), -20);
         due("14: it is empty then", x.type(65), 1);
+        due("14: 120 blanks", read(new ParishPull(), " ".repeat(120)), -140);
+        due("14: 120 letters, then the end", read(new ParishPull(), "l" + " ".repeat(118) + ","), -140);
+        due("14: 120 letters", read(new ParishPull(), "l" + " ".repeat(117) + ",h"), 2);
     }
 
     private static void lands() {
@@ -384,6 +388,13 @@ public final class PromiseTest {
         due("16: it lies then", x.told(1, 8), 0);
         due("16: the other hangs", x.told(0, 8), 90);
         due("16: fallen once", x.weeks(1), 0);
+        ParishPull y = landOf("l1111");
+        y.good(1, 1, 0);
+        due("8: the weakest rope", y.hang(0, 1), 0);
+        due("16: it holds", y.weeks(1), 0);
+        due("27: the weakest rope", y.change(0, 2, 0), 1);
+        y.pull(0, 0, 2);
+        due("16: it falls", y.weeks(1), 1);
     }
 
     private static void seasons() {
@@ -582,6 +593,12 @@ public final class PromiseTest {
         due("23: the first", x.councils(1, 2, 0, 1), 91);
         due("23: the other way", x.councils(2, 1, 0, 1), 19);
         due("23: all is as it was", x.of(1, 1) * 10 + x.of(2, 1), 55);
+        ParishPull y = landOf("l,l;01");
+        y.cart(52, 0);
+        y.good(7, 1, 1);
+        y.good(5, 7, 0);
+        due("23: no rests", y.councils(0, 1, 0, 0), 0);
+        due("23: none is the first", y.councils(0, 1, 0, 1), -4);
         due("23: alike", x.councils(1, 1, 0, 0), -1);
         due("23: what 2", x.councils(1, 2, 0, 2), -1);
         due("23: what -1", x.councils(1, 2, 0, -1), -1);
@@ -670,8 +687,8 @@ public final class PromiseTest {
         due("27: what -1", x.change(0, 5, -1), -1);
         x.pull(0, 0, 9);
         due("27: what weighs too much now would hold", x.change(0, 6, 0), 0);
-        due("27: it would fall, wherever the pull is changed", x.change(1, 5, 0), 1);
-        due("27: both", x.change(1, 9, 0), 5);
+        due("27: what weighs too much already falls by no change elsewhere", x.change(1, 5, 0), 0);
+        due("27: it would fall by a change there that leaves it too heavy", x.change(0, 8, 0), 1);
     }
 
     private static void wells() {
@@ -779,6 +796,10 @@ public final class PromiseTest {
         due("31: more than 30", x.beam(0, 0, 0, 1, 0, 2, 1), -1000004);
         items(x, 0, 1, 30, -6);
         due("31: just 30 to the right", x.beam(0, 0, 0, 1, 0, 1, 1), 30);
+        ParishPull y = landOf("l1555,l1555");
+        items(y, 0, 1, 99, 1, 80, 1);
+        due("31: the least weights, just 30", y.beam(0, 1, 0, 1, 0, 2, 1), 30);
+        due("31: the least weights", y.beam(0, 1, 0, 1, 0, 1, 1), 17);
         due("31: to the right on a sea", x.beam(0, 2, 0, 1, 0, 1, 1), -1000004);
     }
 
