@@ -1151,7 +1151,7 @@ public final class ParishPull {
         private final State state;
         private final Routes routes;
         private final int[] values = new int[MOST_PARISHES];
-        /** Of each parish, where it has no scales: those without scales, with scales, where selling gains. */
+        /** Of each parish where it is bought, by its pull or by scales: the set of those where selling so gains. */
         private final int[] plainToPlain = new int[MOST_PARISHES];
         private final int[] plainToScale = new int[MOST_PARISHES];
         private final int[] scaleToPlain = new int[MOST_PARISHES];
