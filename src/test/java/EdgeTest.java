@@ -970,6 +970,19 @@ public final class EdgeTest {
         w.cart(999, 0);
         w.good(10, 1, 0);
         due(w.scales(0, 0), 1);
+        says("21: bought where scales are, in whichever parish: for 5 times its mass");
+        for (int sea = 0; sea < 8; sea++) {
+            ParishPull s = new ParishPull();
+            for (int k = 0; k < 8; k++) {
+                s.parish(k == sea ? 2 : 0);
+            }
+            for (int k = 0; k < 7; k++) {
+                s.road(k, k + 1, 0);
+            }
+            s.cart(999, 0);
+            s.good(10, 1, 0);
+            due(s.scales(0, 0), 1 << sea);
+        }
         says("21: carried as it is: what the cart bears counts without scales");
         ParishPull b = landOf("l9555,l1555;01");
         b.cart(89, 0);
